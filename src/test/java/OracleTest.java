@@ -176,12 +176,12 @@ final class OracleTest {
                 break;
             }
             case "hold":
-                if (upTo(3) > 0) {
+                if (upTo(1) > 0) {
                     return null;
                 }
                 a[0] = some(1); got = town.hold(a[0]) ? 1 : 0; due = naive.hold(a[0]) ? 1 : 0; break;
             case "restore":
-                if (upTo(5) > 0) {
+                if (upTo(1) > 0) {
                     return null;
                 }
                 a[0] = some(1); got = town.restore(a[0]) ? 1 : 0; due = naive.restore(a[0]) ? 1 : 0; break;

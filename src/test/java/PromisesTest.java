@@ -611,6 +611,13 @@ final class PromisesTest {
         judged(text + "tide=(13-hour)*99;", 0, 0, 1, -7);
         judged(text + "tide=18;", 5, 0, 1, -3);
         judged("house a 0 50 1;house b 0 9 1;quay b;stair a b 3;", 0, 0, 1, -3);
+        // Forty nights, of which the last one goes too far.
+        StiltTown nights = town("house a 0 39 1;wood 2 1;");
+        for (int i = 0; i < 40; i++) {
+            due("work " + i, nights.work(99 - i, 0, -1), i);
+        }
+        due("judge()", nights.judge(), 3);
+        due("done()", nights.done(), -2);
     }
 
     private static void judged(String text, int verdict, int... works) {
@@ -1065,6 +1072,36 @@ final class PromisesTest {
         due("restore(1) again", town.restore(1), true);
         due("house(1, 1)", town.house(1, 1), 9);
         due("what a slot holds stays", town.house(0, 1), 20);
+        heldLogs();
+    }
+
+    /** LOGS that are told behind a restore do not change those that another SLOT holds. */
+    private static void heldLogs() {
+        StiltTown town = town("house a 0 20 1;house b 0 9 1;office o 3;office p 3;");
+        town.hold(0);
+        town.vote(0, 1, 1);
+        town.mark(1, 7, 8);
+        town.annul(0);
+        town.mark(1, 9, 12);
+        town.hold(1);
+        due("restore(0)", town.restore(0), true);
+        due("count(8)", town.count(8), 0);
+        town.mark(0, 1, 1);
+        town.mark(0, 2, 2);
+        town.vote(1, 0, 0);
+        town.annul(1);
+        due("winner(0, 4)", town.winner(0, 4), 0);
+        due("ends(0, 2, 9, 2)", town.ends(0, 2, 9, 2), 202);
+        due("restore(1)", town.restore(1), true);
+        due("count(8)", town.count(8), 4);
+        due("winner(0, 4)", town.winner(0, 4), -2);
+        due("winner(1, 2)", town.winner(1, 2), 1);
+        due("winner(1, 3)", town.winner(1, 3), -2);
+        due("ends(1, 8, 2, 4)", town.ends(1, 8, 2, 4), 1010);
+        due("ends(1, 7, 2, 4)", town.ends(1, 7, 2, 4), 808);
+        due("ends(0, 2, 9, 4)", town.ends(0, 2, 9, 4), 99);
+        due("annul(2)", town.annul(2), -1);
+        due("annul(3)", town.annul(3), 4);
     }
 
     private static void counts() {
