@@ -9,10 +9,14 @@ final class OracleTest {
         "dread", "year", "year", "clear", "posts", "postAt", "vote", "vote", "mark", "mark", "annul", "votes", "winner", "ends",
         "years", "hold", "restore", "count", "place", "feed", "back", "read"};
 
+    private static final int MOST_CALLS = 512;
+
     private final Random random;
     private final Texts texts;
     private StiltTown town;
     private NaiveTown naive;
+    // Calls that the town has had; what is answered beyond 512 is free.
+    private int used = 0;
     private final StringBuilder told = new StringBuilder();
     private static int calls = 0;
     private static final java.util.Map<String, java.util.Map<Long, Integer>> SEEN = new java.util.TreeMap<>();
@@ -57,11 +61,25 @@ final class OracleTest {
         }
     }
 
-    private String readMany() {
+    private void anew() {
         town = new StiltTown();
         naive = new NaiveTown();
+        used = 0;
+        told.setLength(0);
+    }
+
+    private boolean hasRoomFor(String text) {
+        return used + Math.min(100, (text.length() + 19) / 20) + 5 <= MOST_CALLS;
+    }
+
+    private String readMany() {
+        anew();
         for (int i = 0; i < 12; i++) {
             String text = i % 4 == 0 ? texts.full() : i % 4 == 1 ? texts.pieces() : texts.wrong(30);
+            // A text takes 105 calls at most, the counts 16.
+            if (used + 121 > MOST_CALLS) {
+                anew();
+            }
             String wrong = readBoth(text);
             for (int what = 0; wrong == null && what < 16; what++) {
                 wrong = compare("count", new int[] {what}, town.count(what), naive.count(what));
@@ -87,19 +105,19 @@ final class OracleTest {
         int over = Tape.over(text.length());
         town.back(over);
         naive.back(over);
+        used += 2;
         wrong = compare("read", new int[0], town.read(), naive.read());
         return wrong != null ? wrong : compare("place", new int[0], town.place(), naive.place());
     }
 
     private String play() {
-        town = new StiltTown();
-        naive = new NaiveTown();
+        anew();
         String wrong = readRight();
-        for (int i = 0; wrong == null && i < 400; i++) {
+        for (int i = 0; wrong == null && i < 450 && used + 2 <= MOST_CALLS; i++) {
             String method = METHODS[upTo(METHODS.length - 1)];
             boolean reads = method.equals("read");
             if (reads && upTo(5) == 0) {
-                wrong = upTo(5) > 0 ? readRight() : readBoth(texts.wrong(30));
+                wrong = upTo(5) > 0 ? readRight() : readIfRoom(texts.wrong(30));
             } else if (!reads) {
                 wrong = one(method);
             }
@@ -107,17 +125,22 @@ final class OracleTest {
         return wrong;
     }
 
+    private String readIfRoom(String text) {
+        return hasRoomFor(text) ? readBoth(text) : null;
+    }
+
     /** Texts by chance may have too many TOKENS; then the next one is tried. */
     private String readRight() {
         String wrong = null;
         for (int i = 0; wrong == null && i < 8 && (i == 0 || naive.place() != NaiveTown.NONE); i++) {
-            wrong = readBoth(texts.right(1 + upTo(98)));
+            wrong = readIfRoom(texts.right(1 + upTo(98)));
         }
         return wrong;
     }
 
     private String compare(String name, int[] args, long got, long due) {
         calls++;
+        used++;
         SEEN.computeIfAbsent(name, key -> new java.util.TreeMap<>()).merge(Math.max(-3, Math.min(due, 3)), 1, Integer::sum);
         return got == due ? null : name + Arrays.toString(args) + " answered " + got + ", due is " + due;
     }

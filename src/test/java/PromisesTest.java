@@ -1,36 +1,6 @@
 /** Each promise of the document with answers worked out by hand. */
-final class PromisesTest {
-    private static int wrong = 0;
-    private static int asked = 0;
-    private static String promise = "";
-
+final class PromisesTest extends Answers {
     private PromisesTest() {
-    }
-
-    private static void due(String call, long got, long want) {
-        asked++;
-        if (got != want) {
-            wrong++;
-            System.out.println(promise + ": " + call + " answered " + got + ", due is " + want);
-        }
-    }
-
-    private static void due(String call, boolean got, boolean want) {
-        due(call, got ? 1 : 0, want ? 1 : 0);
-    }
-
-    /** A town out of a text that has to be right. */
-    private static StiltTown town(String text) {
-        StiltTown town = new StiltTown();
-        due("read " + text, Tape.read(town, text), 0);
-        return town;
-    }
-
-    /** What a new town answers to a text: its FAULT and the place of it. */
-    private static void fault(String text, int number, int place) {
-        StiltTown town = new StiltTown();
-        due("read " + text, Tape.read(town, text), number);
-        due("place " + text, town.place(), place);
     }
 
     public static void main(String[] args) {
@@ -60,10 +30,7 @@ final class PromisesTest {
         promise = "41 years"; years();
         promise = "42, 43 hold, restore"; slots();
         promise = "44 count"; counts();
-        System.out.println(asked + " answers asked, " + wrong + " wrong");
-        if (wrong != 0) {
-            System.exit(1);
-        }
+        end();
     }
 
     private static void newObject() {
