@@ -464,6 +464,25 @@ final class EdgesTest extends Answers {
             due("done", town.done(), 1);
         }
         lawsAfterLaws();
+        woodsAfterWoods();
+    }
+
+    /** A piece is cut to the lengths that are told now, not to those of a text ahead. */
+    private static void woodsAfterWoods() {
+        StiltTown town = town("wood 2 1;wood 3 2;wood 4 3;");
+        due("read", Tape.read(town, "house a 0 40 1;wood 2 5;crews 9;"), 0);
+        town.work(0, 0, -3);
+        town.work(0, 0, -4);
+        town.work(0, 0, 2);
+        due("done()", town.done(), 1);
+        due("2 inches", town.wood(0), 4);
+        due("read", Tape.read(town, "wood 2 1;wood 3 2;wood 4 3;"), 0);
+        for (int i = 0; i < 3; i++) {
+            due("as told", town.wood(i), i + 1);
+        }
+        due("read", Tape.read(town, "house a 0 40 1;wood 2 5;"), 0);
+        due("2 and 2", town.jack(4, 0), 2);
+        due("no 3", town.jack(3, 0), -2);
     }
 
     /** One law at a time, each text without those of the texts ahead, and as long as can be. */
